@@ -232,6 +232,8 @@ public final class PromiseTest {
         fault("wide 0", 5, 2);
         fault("wide 100000000", 5, 2);
         fault("at 1000000000 q", 3, 2);
+        fault("at 9999999990 q", 3, 2);
+        fault("at 99999999900 q", 3, 2);
         fault("at 4294967301 q", 3, 2);
         fault("at 18446744073709551621 q", 3, 2);
         fault("every 0 from 1 times 2 q", 6, 2);
@@ -318,6 +320,32 @@ public final class PromiseTest {
         is(x.back(1), 1);
         is(x.count(4), 3);
         is(x.next(0, 2), 7);
+        tellsOnceMore();
+    }
+
+    private static void tellsOnceMore() {
+        DayRows x = of("every 9 from 7 times 20 b;after b in 999999 c;after b in 5 c");
+        x.take(3);
+        x.cut(50);
+        is(x.ahead(4, 0) >= 0 ? 1 : 0, 1);
+        is(tell(x, "at 4 b"), 1);
+        for (int what = 0; what < 8; what++) {
+            is(x.total(what), 0);
+        }
+        int[] counts = {1, 4, 10, 0, 1, 0, 0, 0, 0, 1};
+        for (int what = 0; what < 10; what++) {
+            is(x.count(what), counts[what]);
+        }
+        is(x.named(0, 2), 0);
+        is(x.log(0, 0), NONE);
+        tell(x, "rows 64;wide 8;at 999999999 b;after b in 5 b");
+        x.take(1);
+        is(x.named(0, 4), 1);
+        tell(x, "at 3 c");
+        is(x.named(0, 2), 0);
+        is(x.named(0, 4), 0);
+        is(x.total(6), 0);
+        laid(x, 4, 10, 0, 0, 0);
     }
 
     static void promise5() {
@@ -592,6 +620,11 @@ public final class PromiseTest {
         is(late.next(0, 2), 5);
         is(late.shift(0, 9), 2);
         is(late.next(1, 2), LAST);
+        is(late.shift(0, 1), -3);
+        DayRows alone = of("at 999999990 a;at 999999995 b");
+        is(alone.shift(0, 10), -3);
+        is(alone.shift(0, 9), 1);
+        order(alone, 1, 0);
         DayRows anew = of("rows 8;at 0 a;at 10 a;at 20 b;at 40 a");
         is(anew.shift(0, 15), 3);
         laid(anew, 4, 45, 3, 0, 1);
@@ -913,7 +946,11 @@ public final class PromiseTest {
         is(x.letter(1, 0), 97);
         is(x.letter(1, 1), NONE);
         is(x.letter(2, 1), 122);
-        is(x.letter(3, 0), NONE);
+        is(name(x, "zzzzzz"), 3);
+        is(name(x, "azzzzz"), 4);
+        is(x.letter(3, 0), 122);
+        is(x.letter(4, 0), 97);
+        is(x.letter(5, 0), NONE);
         is(x.letter(-1, 0), NONE);
         is(x.letter(0, Integer.MAX_VALUE), NONE);
     }
@@ -1024,6 +1061,8 @@ public final class PromiseTest {
         is(x.skew(0), 1);
         is(x.skew(1), 1);
         is(x.skew(4), 20);
+        is(of("at 0 a;at 50 a;at 51 a").skew(5), 50);
+        is(of("at 0 a;at 1 a;at 51 a").skew(5), 50);
         is(of("at 35 a").skew(4), 0);
         is(of("at 35 a").skew(5), 0);
         is(of("at 35 a").skew(3), 1);
@@ -1090,6 +1129,7 @@ public final class PromiseTest {
         is(of("at 5 a;at 5 a").widthNow(), 1);
         is(of("at 5 a;at 12 a").widthNow(), 21);
         is(of("at 0 a;at 999999999 a").widthNow(), 99999999);
+        is(of("at 90 a;at 91 a;at 93 a;at 190 a").widthNow(), 3);
         is(of("at 0 a;at 33333333 a").widthNow(), 99999999);
         is(of("at 0 a;at 33333332 a").widthNow(), 99999996);
         is(of("at 0 a;at 1 a;at 3 a;at 100 a").widthNow(), 3);
@@ -1118,6 +1158,9 @@ public final class PromiseTest {
         is(x.digest(), digest);
         is(x.count(3), 0);
         is(x.total(0), 0);
+        x.take(2);
+        is(x.ahead(1, 4), 1);
+        is(x.ahead(2, 4), 3);
         DayRows endless = of("at 0 a;after a in 10 a");
         is(endless.ahead(300, 0), 299);
         is(endless.ahead(300, 2), 2990);
@@ -1282,6 +1325,8 @@ public final class PromiseTest {
         is(x.pair(1), 4);
         is(x.pair(2), NONE);
         is(x.pair(-1), NONE);
+        is(of("at 0 a;at 9 a;at 15 a").pair(0), 6);
+        is(of("at 0 a;at 9 a;at 15 a").pair(1), 1);
         x.take(1);
         is(x.pair(0), 5);
         is(x.pair(1), 2);
@@ -1289,7 +1334,12 @@ public final class PromiseTest {
         x.push(0, 25);
         is(x.pair(0), 0);
         is(x.pair(1), 2);
-        x.take(3);
+        x.take(1);
+        is(x.pair(0), 5);
+        x.take(1);
+        is(x.pair(0), 20);
+        is(x.pair(1), 1);
+        x.take(1);
         is(x.pair(0), -2);
         is(x.pair(1), -2);
         is(x.pair(2), NONE);
@@ -1389,6 +1439,8 @@ public final class PromiseTest {
         is(x.share(100), 50);
         is(x.share(0), NONE);
         is(x.share(101), NONE);
+        is(of("at 7 a").share(1), 7);
+        is(of("at 7 a").share(100), 7);
         is(new DayRows().share(1), -2);
         is(new DayRows().share(0), NONE);
         is(full().share(1), 1);
@@ -1407,6 +1459,8 @@ public final class PromiseTest {
         is(x.bestRows(100000000, 0), NONE);
         is(x.bestRows(10, 2), NONE);
         is(x.bestRows(10, -1), NONE);
+        is(of("at 2 a;at 4 a;at 8 a").bestRows(1, 0), 8);
+        is(of("at 2 a;at 4 a;at 8 a").bestRows(1, 1), 3 + 3 + 5);
         is(of("at 63 a").bestRows(1, 0), 2);
         is(of("at 2 a").bestRows(1, 0), 4);
         is(of("at 2 a").bestRows(1, 1), 3);
@@ -1504,6 +1558,8 @@ public final class PromiseTest {
         is(x.by(5, -1), NONE);
         is(x.count(0), 3);
         is(x.count(3), 0);
+        x.take(2);
+        is(x.by(27, 1), 3);
         DayRows endless = of("at 0 a;after a in 1 a");
         is(endless.by(298, 0), 299);
         is(endless.by(LAST, 0), 300);
