@@ -1,128 +1,27 @@
 /** For each promise of the document some calls with the answers that are due, found by hand. */
-public final class PromiseTest {
-    private static final int NONE = DayRows.NONE;
-    private static final int LAST = 999999999;
-    private static int promise;
-    private static int wrongOfPromise;
+public final class PromiseTest extends Checks {
+    private static final int PROMISES = 55;
 
     public static void main(String[] args) {
         int failed = 0;
-        int promises = 55;
-        for (promise = 1; promise <= promises; promise++) {
-            wrongOfPromise = 0;
-            run();
-            if (wrongOfPromise > 0) {
+        for (int promise = 1; promise <= PROMISES; promise++) {
+            begin("promise" + promise);
+            run(promise);
+            if (wrongAnswers() > 0) {
                 failed++;
             }
         }
-        System.out.println("PromiseTest: " + (promises - failed) + " passed, " + failed + " failed");
+        System.out.println("PromiseTest: " + (PROMISES - failed) + " passed, " + failed + " failed");
         if (failed > 0) {
             System.exit(1);
         }
     }
 
-    private static void run() {
+    private static void run(int promise) {
         try {
             PromiseTest.class.getDeclaredMethod("promise" + promise).invoke(null);
         } catch (ReflectiveOperationException e) {
-            wrongOfPromise++;
-            System.out.println("promise " + promise + ": " + e + ", " + e.getCause());
-        }
-    }
-
-    private static void is(long got, long due) {
-        if (got != due) {
-            wrongOfPromise++;
-            StackTraceElement line = new Throwable().getStackTrace()[1];
-            for (StackTraceElement e : new Throwable().getStackTrace()) {
-                if (e.getMethodName().startsWith("promise")) {
-                    line = e;
-                }
-            }
-            System.out.println("promise " + promise + ", line " + line.getLineNumber() + ": " + got + ", due is " + due);
-        }
-    }
-
-    private static void feed(DayRows x, String text) {
-        x.end(0);
-        for (int from = 0; from < text.length(); from += 20) {
-            int[] five = new int[5];
-            for (int k = 0; k < 20 && from + k < text.length(); k++) {
-                five[k / 4] |= text.charAt(from + k) << 24 - k % 4 * 8;
-            }
-            x.feed(five[0], five[1], five[2], five[3], five[4]);
-        }
-        is(x.end(text.length()), text.length());
-    }
-
-    private static int tell(DayRows x, String text) {
-        feed(x, text);
-        return x.tell();
-    }
-
-    private static int name(DayRows x, String word) {
-        feed(x, word);
-        return x.name();
-    }
-
-    private static DayRows of(String text) {
-        DayRows x = new DayRows();
-        is(tell(x, text) >= 0 ? 1 : 0, 1);
-        return x;
-    }
-
-    /** A new object with the names a, b, .. */
-    private static DayRows names(int many) {
-        DayRows x = new DayRows();
-        for (int i = 0; i < many; i++) {
-            is(name(x, "" + (char) ('a' + i)), i);
-        }
-        return x;
-    }
-
-    private static void fault(String text, int place, int kind) {
-        is(tell(new DayRows(), text), -2 - (8 * place + kind));
-    }
-
-    /** The numbers of all that wait, those ahead first. */
-    private static void order(DayRows x, int... numbers) {
-        is(x.count(0), numbers.length);
-        for (int k = 0; k < numbers.length; k++) {
-            is(x.next(k, 0), numbers[k]);
-        }
-    }
-
-    /** Rows, width, moves, grown, shrunk. */
-    private static void laid(DayRows x, int rows, int width, int moves, int grown, int shrunk) {
-        is(x.count(1), rows);
-        is(x.count(2), width);
-        is(x.total(1), moves);
-        is(x.total(3), grown);
-        is(x.total(4), shrunk);
-    }
-
-    /** 200 wait, of the name a. */
-    private static DayRows full() {
-        DayRows x = of("every 1 from 0 times 50 a;every 1 from 50 times 50 a;"
-            + "every 1 from 100 times 50 a;every 1 from 150 times 50 a;after b in 1 b");
-        is(x.count(0), 200);
-        return x;
-    }
-
-    private static String told(DayRows x) {
-        StringBuilder text = new StringBuilder();
-        for (int k = 0; k < x.told(NONE); k++) {
-            text.append((char) x.told(k));
-        }
-        return text.toString();
-    }
-
-    private static void text(DayRows x, String due) {
-        is(x.told(NONE), due.length());
-        String got = told(x);
-        if (!got.equals(due)) {
-            wrongOfPromise++;
-            System.out.println("promise " + promise + ": told '" + got + "', due is '" + due + "'");
+            say(e + ", " + e.getCause());
         }
     }
 
@@ -1422,8 +1321,7 @@ public final class PromiseTest {
         text(x, "rows 64;wide 99999999;at 0 at;at 999999999 abcdef;after abcdef in 999999 at;after at in 10 abcdef");
         x.take(1);
         text(x, "rows 32;wide 99999999;at 10 abcdef;at 999999999 abcdef;after abcdef in 999999 at;after at in 10 abcdef");
-        String all = told(full());
-        is(all.length(), "rows 64;wide 3".length() + ";at 0 a".length() * 10 + ";at 10 a".length() * 90 + ";at 100 a".length() * 100
+        is(full().told(NONE), "rows 64;wide 3".length() + ";at 0 a".length() * 10 + ";at 10 a".length() * 90 + ";at 100 a".length() * 100
             + ";after b in 1 b".length());
     }
 
