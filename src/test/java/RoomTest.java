@@ -1,31 +1,25 @@
 import java.lang.management.ManagementFactory;
 
-/** Whether a call makes nothing: all room is taken by the constructor, and that is little. */
+/** Whether an object and its 512 calls stay far below the room that LANGUAGE.md leaves to a run. */
 public final class RoomTest {
-    private static final int ROOM_OF_ONE = 200_000;
+    // 7.3 million fields and elements of four bytes.
+    private static final long ROOM = 4L * 7_300_000;
+    private static final int ROUNDS = 7;
 
     public static void main(String[] args) {
         var threads = (com.sun.management.ThreadMXBean) ManagementFactory.getThreadMXBean();
-        for (int i = 0; i < 20; i++) {
+        for (int i = 0; i < 5; i++) {
             allCalls(new DayRows());
         }
         long before = threads.getCurrentThreadAllocatedBytes();
         DayRows x = new DayRows();
-        long made = threads.getCurrentThreadAllocatedBytes();
+        long made = threads.getCurrentThreadAllocatedBytes() - before;
         allCalls(x);
-        long after = threads.getCurrentThreadAllocatedBytes();
-        boolean small = made - before < ROOM_OF_ONE;
-        // The measuring itself may take a little.
-        boolean none = after - made < 1000;
-        if (!small) {
-            System.out.println("the constructor takes " + (made - before) + " bytes");
-        }
-        if (!none) {
-            System.out.println("the calls take " + (after - made) + " bytes");
-        }
-        int passed = (small ? 1 : 0) + (none ? 1 : 0);
-        System.out.println("RoomTest: " + passed + " passed, " + (2 - passed) + " failed");
-        if (passed < 2) {
+        long all = threads.getCurrentThreadAllocatedBytes() - before;
+        System.out.println("the constructor takes " + made + " bytes, the calls " + (all - made));
+        boolean fits = all < ROOM;
+        System.out.println("RoomTest: " + (fits ? 1 : 0) + " passed, " + (fits ? 0 : 1) + " failed");
+        if (!fits) {
             System.exit(1);
         }
     }
@@ -41,13 +35,16 @@ public final class RoomTest {
         }
         sum += x.keep(0) + x.keep(1) + x.take(5) + x.until(9) + x.cancel(60) + x.postpone(70, 900);
         sum += x.shift(1, 5) + x.merge(1, 2) + x.swap(90, 100) + x.unrule(1) + x.resize(4, 3) + x.push(0, 400);
-        for (int k = -1; k < 6; k++) {
+        for (int k = -1; k < ROUNDS - 1; k++) {
             sum += x.next(k, 3) + x.of(90, k) + x.row(k, k) + x.letter(k, 0) + x.named(0, k) + x.ruled(0, k);
             sum += x.log(0, k) + x.total(k) + x.skew(k) + x.looks() + x.lookBy(4, 5) + x.best(4, k) + x.widthNow();
             sum += x.ahead(300, k) + x.between(k, 90) + x.crowd(9, k) + x.busiest(300, k) + x.leads(0, k);
             sum += x.soonest(k, 0) + x.day(k) + x.free(5, k) + x.pair(k) + x.when(0, k) + x.same(0, k) + x.told(k);
             sum += x.share(k) + x.bestRows(5, k) + x.skewBy(4, 5, k) + x.longest(k) + x.way(0, 0, k) + x.by(900, k);
-            sum += x.digest() + x.count(k);
+            sum += x.digest() + x.count(k) + x.told(-1) + x.best(64, 1) + x.by(999999999, 1) + x.when(1, 99);
+        }
+        for (int k = 0; k < 40; k++) {
+            sum += x.until(999999999) + x.undo() + x.keep(0) + x.back(0);
         }
         sum += x.clear(2) + x.cut(200) + x.undo() + x.undo() + x.back(1);
         // "at 5 ab; rows 2 ; b?"
