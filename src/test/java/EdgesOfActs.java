@@ -4,6 +4,7 @@ final class EdgesOfActs extends Checks {
 
     @Edge(in = "Promise 1", says = "No NAMES, nothing WAITS.")
     static void aNewObjectHasNothing() {
+        is(DayRows.NONE, -1);
         DayRows x = new DayRows();
         for (int what = 0; what < 10; what++) {
             is(x.count(what), what == 1 ? 4 : what == 2 ? 10 : 0);
@@ -886,6 +887,20 @@ final class EdgesOfActs extends Checks {
         }
     }
 
+    @Edge(in = "Promise 20", says = "The last ACT is UNDONE")
+    static void undoLeavesTapeAndShelves() {
+        DayRows x = of("at 5 a");
+        x.push(0, 9);
+        x.keep(1);
+        feed(x, "abc");
+        is(x.undo(), 0);
+        is(x.count(7), 3);
+        is(x.count(8), 2);
+        is(x.same(1, 0), 0);
+        is(x.back(1), 2);
+        is(x.name(), 1);
+    }
+
     @Edge(in = "Promise 20", says = "NONE, and nothing happens, if none can")
     static void undoOfNone() {
         DayRows x = new DayRows();
@@ -961,6 +976,27 @@ final class EdgesOfActs extends Checks {
         is(x.count(6), 1);
         is(x.undo(), 0);
         is(state(x).replaceFirst("^(\\S+ \\S+ \\S+ \\S+ \\S+ \\S+) 0", "$1 1").equals(kept) ? 1 : 0, 1);
+    }
+
+    @Edge(in = "Promise 22", says = "nothing can be UNDONE then")
+    static void backForgetsTheActs() {
+        DayRows x = of("at 5 a");
+        for (int act = 0; act < 12; act++) {
+            x.push(0, 10 + act);
+        }
+        is(x.keep(0), 13);
+        is(x.count(6), 10);
+        is(x.back(0), 13);
+        is(x.undo(), NONE);
+        for (int act = 0; act < 12; act++) {
+            x.push(0, 30 + act);
+            is(x.count(6), Math.min(10, act + 1));
+        }
+        for (int left = 9; left >= 0; left--) {
+            is(x.undo(), left);
+        }
+        is(x.undo(), NONE);
+        is(x.count(0), 15);
     }
 
     @Edge(in = "Promise 22", says = "NONE, and nothing happens, without that SHELF")
